@@ -720,17 +720,9 @@ public final class RivalMills {
             }
         }
 
-        private boolean isLetter() {
-            return at < length && text[at] >= 'a' && text[at] <= 'z';
-        }
-
-        private boolean isDigit() {
-            return at < length && text[at] >= '0' && text[at] <= '9';
-        }
-
         private void readClause(int clausesAhead) {
             int start = at;
-            while (isLetter()) {
+            while (at < length && text[at] >= 'a' && text[at] <= 'z') {
                 at++;
             }
             int word = wordOf(start, at);
@@ -786,7 +778,7 @@ public final class RivalMills {
             skipBlanks();
             int start = at;
             int value = 0;
-            while (isDigit()) {
+            while (at < length && text[at] >= '0' && text[at] <= '9') {
                 value = Math.min(TOO_GREAT, value * 10 + (text[at] - '0'));
                 at++;
             }
@@ -1122,8 +1114,10 @@ public final class RivalMills {
                 int row = Math.min(upperTop, upper - x + comes) * width;
                 int y = NONE;
                 for (int p = lowerNarrow; p <= lowerWide && y < lower; p++) {
-                    y = Math.min(lower, p * lowerGate);
-                    int worth = x * upperWorth + y * lowerWorth + far[row + Math.min(lowerTop, lower - y + x)];
+                    // No calls here: this is gone through millions of times.
+                    y = p * lowerGate < lower ? p * lowerGate : lower;
+                    int then = lower - y + x;
+                    int worth = x * upperWorth + y * lowerWorth + far[row + (then < lowerTop ? then : lowerTop)];
                     if (worth > most) {
                         most = worth;
                         pick = o * 4 + p;

@@ -1,0 +1,137 @@
+import java.io.IOException;
+import java.lang.reflect.Constructor;
+import java.lang.reflect.Field;
+import java.lang.reflect.Method;
+import java.lang.reflect.Modifier;
+import java.nio.file.Files;
+import java.nio.file.Path;
+import java.util.ArrayList;
+import java.util.List;
+import java.util.Set;
+import java.util.TreeSet;
+
+/** The public face is the document's and no more, and the source keeps to the rules of LANGUAGE.md that can be read off. */
+public final class FaceTest {
+    private static final String[] FACE = {
+        "feed(int,int,int,int,int)", "mills(int) I", "fault()", "mill(int,int) OI", "told(int) I", "river(int) O",
+        "oven(int,int) NI", "plan(int,int,int) OI", "set(int,int,int) OI", "open(int,int) O", "level(int,int) O",
+        "day(int,int) OI", "water(int) I", "back(int) O", "together()", "best(int,int) O", "take()", "alone(int) O",
+        "reply(int) O", "would(int) O", "play()", "rounds()", "lost()", "share(int) O", "hand()", "harmless()",
+        "cart(int,int,int) I", "weed(int,int) I", "clear()", "explain(int) I", "eel(int,int,int) OI",
+        "weighed(int,int,int) I", "pays(int) O", "soonest(int,int) OI", "blame(int,int) OI", "later(int,int,int) OI",
+        "dry(int) O", "marked(int) I", "half(int) O", "image()", "restore()", "status(int)", "count(int)",
+    };
+
+    private static final String[] OUTSIDE = {
+        "Exact(", "try ", "finally", "synchronized", "assert ", "->", "::", "System.out", "nanoTime", "Random", "HashMap",
+        "float ", "double ", "getMessage", "String.format", "Stream", "Thread", "instanceof Object", "switch (\"",
+    };
+
+    private FaceTest() {
+    }
+
+    public static void main(String[] args) throws IOException {
+        methods();
+        others();
+        nested();
+        source();
+        Due.end();
+    }
+
+    private static boolean nameOfFace(String name) {
+        for (String line : FACE) {
+            if (line.startsWith(name + "(")) {
+                return true;
+            }
+        }
+        return false;
+    }
+
+    private static String shown(Method m) {
+        List<String> types = new ArrayList<>();
+        for (Class<?> type : m.getParameterTypes()) {
+            types.add(type.getSimpleName());
+        }
+        StringBuilder thrown = new StringBuilder();
+        for (Class<?> type : m.getExceptionTypes()) {
+            thrown.append(type == IndexOutOfBoundsException.class ? "O"
+                : type == IllegalArgumentException.class ? "I"
+                : type == java.util.NoSuchElementException.class ? "N" : "?");
+        }
+        String text = m.getName() + "(" + String.join(",", types) + ")";
+        return thrown.length() == 0 ? text : text + " " + thrown;
+    }
+
+    private static void methods() {
+        Set<String> due = new TreeSet<>(List.of(FACE));
+        Set<String> got = new TreeSet<>();
+        for (Method m : RivalMills.class.getDeclaredMethods()) {
+            if (Modifier.isPrivate(m.getModifiers())) {
+                Due.is("private " + m.getName() + " has a name of its own", !nameOfFace(m.getName()));
+            } else {
+                Due.is(m.getName() + " is public, an object's, and answers an int",
+                    m.getModifiers() == Modifier.PUBLIC && m.getReturnType() == int.class);
+                got.add(shown(m));
+            }
+        }
+        Due.is("methods " + got + " are " + due, got.equals(due));
+    }
+
+    private static void others() {
+        Due.is("the class is public and final", RivalMills.class.getModifiers() == (Modifier.PUBLIC | Modifier.FINAL));
+        for (Field f : RivalMills.class.getDeclaredFields()) {
+            if (f.getName().equals("NONE")) {
+                Due.is("NONE is a public constant",
+                    f.getModifiers() == (Modifier.PUBLIC | Modifier.STATIC | Modifier.FINAL));
+            } else {
+                Due.is(f.getName() + " is private", Modifier.isPrivate(f.getModifiers()));
+            }
+        }
+        Constructor<?>[] made = RivalMills.class.getDeclaredConstructors();
+        Due.is("constructors", made.length, 1);
+        Due.is("the constructor is public", Modifier.isPublic(made[0].getModifiers()));
+        Due.is("NONE", RivalMills.NONE, -1);
+    }
+
+    private static void nested() {
+        Class<?>[] inside = RivalMills.class.getDeclaredClasses();
+        Due.is("there are at most twelve classes", inside.length <= 12);
+        for (Class<?> c : inside) {
+            Due.is(c + " is static, neither public nor protected", Modifier.isStatic(c.getModifiers())
+                && !Modifier.isPublic(c.getModifiers()) && !Modifier.isProtected(c.getModifiers()));
+            Due.is(c + " has some twenty fields at most", fieldsOf(c) <= 20);
+            for (Method m : c.getDeclaredMethods()) {
+                Due.is(c + "." + m.getName() + " has a name of its own", !nameOfFace(m.getName()));
+            }
+        }
+        Due.is("RivalMills has some twenty fields at most", fieldsOf(RivalMills.class) <= 20);
+    }
+
+    private static int fieldsOf(Class<?> c) {
+        int own = 0;
+        for (Field f : c.getDeclaredFields()) {
+            boolean fixed = Modifier.isStatic(f.getModifiers());
+            Due.is(c + "." + f.getName() + " is final if static", !fixed || Modifier.isFinal(f.getModifiers()));
+            own += fixed ? 0 : 1;
+        }
+        return own;
+    }
+
+    private static void source() throws IOException {
+        String text = Files.readString(Path.of("src/main/java/RivalMills.java"));
+        for (String word : OUTSIDE) {
+            Due.is("the source is without '" + word + "'", !text.contains(word));
+        }
+        int start = 0;
+        int line = 0;
+        for (String row : text.split("\n")) {
+            line++;
+            boolean opens = row.matches("    (    )?(private |public )?(static )?[\\w\\[\\]]+ \\w+\\(.*\\{");
+            start = opens ? line : start;
+            if (row.equals("    }") || row.equals("        }")) {
+                Due.is("the method that ends in line " + line + " is short", start == 0 || line - start <= 60);
+                start = 0;
+            }
+        }
+    }
+}
