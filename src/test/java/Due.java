@@ -56,6 +56,11 @@ final class Due {
 
     /** Puts a text on the tape and reads it: what mills() answers. */
     static int tell(RivalMills x, String text) {
+        return tell(x, text, text.length());
+    }
+
+    /** Reads but the first bytes of it. */
+    static int tell(RivalMills x, String text, int n) {
         byte[] bytes = text.getBytes(StandardCharsets.ISO_8859_1);
         for (int start = 0; start < bytes.length; start += 20) {
             int[] five = new int[5];
@@ -65,7 +70,7 @@ final class Due {
             }
             x.feed(five[0], five[1], five[2], five[3], five[4]);
         }
-        return x.mills(bytes.length);
+        return x.mills(n);
     }
 
     static RivalMills of(String text) {

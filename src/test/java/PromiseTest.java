@@ -96,6 +96,13 @@ public final class PromiseTest {
         Due.is("mills(7)", x.mills(7), 0);
         Due.is("tape is empty then", x.count(1), 0);
         Due.is("refused", x.status(2), 3);
+        String[] cut = {"back 71;", "back 7;", "backs 7;", "back 7;x"};
+        int[] lengths = {6, 6, 4, 7};
+        int[] places = {6, 6, 4, -1};
+        for (int k = 0; k < cut.length; k++) {
+            Due.is("cut " + cut[k], Due.tell(x, cut[k], lengths[k]), places[k] < 0 ? 0 : -9);
+            Due.is("place of cut " + cut[k], x.fault(), places[k]);
+        }
         Due.is("two ovens", Due.tell(x, "oven 1 2 3;oven 4 5 6;"), 2);
         x.plan(0, 0, 3);
         x.weed(1, 1);
@@ -533,6 +540,7 @@ public final class PromiseTest {
         // Nothing comes: of 10 above a fall of 5 it grinds down to 4: 6 inches by one gate; 3 more at once from 5: 8.
         // With one inch off its fall it can grind but down to 6, and 3: 7.
         Due.is("each inch above the mark harms", Due.of("river 0 0;upper 20 5 1;back 7;").harmless(), 7);
+        Due.is("from the ground on", Due.of("river 0 0;upper 20 5 1;back 0;").harmless(), 0);
         Due.is("it could never grind", Due.of("upper 9 40 1;begin 0 0;back 0;").harmless(), 40);
         Due.is("it may never open", Due.of("ice 0 23;back 0;").harmless(), 40);
         // 20 stand and must sink by 9 in one hour alone: 3 at a time of 20, 17, 14, 11, each 5 or more less 6
@@ -556,6 +564,10 @@ public final class PromiseTest {
         Due.is("all of the lower one", x.cart(0, 6, 1), 7);
         Due.is("all of the lower one cost", x.cart(0, 6, 0), 12);
         Due.is("no ovens", new RivalMills().cart(0, 0, 1), 0);
+        RivalMills other = Due.of("oven 9 9 9;oven 9 9 9;");
+        Due.tell(other, "oven 9 9 9;oven 9 9 9;");
+        Due.tell(other, "oven 1 3 5;");
+        Due.is("ovens of other mills are gone", other.cart(9, 9, 0), 3);
         Due.is("for nothing from either", Due.of("oven 2 0 0;oven 2 0 0;").cart(9, 9, 1), 0);
         Due.is("for nothing from one", Due.of("oven 2 1 0;oven 2 0 0;").cart(9, 9, 1), 1);
         Due.illegal("cart(100, 0, 0)", () -> x.cart(100, 0, 0));
