@@ -1288,6 +1288,7 @@ public final class RivalMills {
     private static final class Weeds {
         static final int LATEST = 23;
         private static final int TOLD_HOURS = 6;
+        private static final int ROWS = 1 << 2 * TOLD_HOURS;
 
         final int[] heights = new int[LATEST + 1];
         int told = 0;
@@ -1330,24 +1331,45 @@ public final class RivalMills {
             upperAhead[0] = of.begin[UPPER];
             lowerAhead[0] = of.begin[LOWER];
             wayAhead[0] = 0;
-            tryHour(0, 0);
-        }
-
-        /** The digits are those of the hours ahead, to the base 4. */
-        private void tryHour(int hour, int digits) {
-            if (hour >= TOLD_HOURS) {
-                noteWay(digits);
-                return;
-            }
-            for (int opening = 0; opening <= WIDEST; opening++) {
-                flow.standAt(upperAhead[hour], lowerAhead[hour], wayAhead[hour]);
-                if (fits(hour, opening)) {
-                    upperAhead[hour + 1] = flow.upper;
-                    lowerAhead[hour + 1] = flow.lower;
-                    wayAhead[hour + 1] = flow.way;
-                    tryHour(hour + 1, digits * 4 + opening);
+            int reached = TOLD_HOURS;
+            for (int row = 0; row < ROWS; row++) {
+                int changed = firstChanged(row);
+                // Behind an hour that did not fit, other openings of later hours can't mend it.
+                if (changed <= reached) {
+                    reached = fittingHours(row, changed);
+                    if (reached == TOLD_HOURS) {
+                        noteWay(row);
+                    }
                 }
             }
+        }
+
+        /** The first hour whose opening is another one than in the row ahead (0 of row 0). */
+        private static int firstChanged(int row) {
+            int hour = TOLD_HOURS - 1;
+            while (hour > 0 && openingOf(row, hour) == 0) {
+                hour--;
+            }
+            return hour;
+        }
+
+        /** A row tells an opening of each hour by digits to the base 4, hour 0 the highest. */
+        private static int openingOf(int row, int hour) {
+            return row >> 2 * (TOLD_HOURS - 1 - hour) & 3;
+        }
+
+        /** How many hours fit till one does not; those ahead of the hour given do, and what stood behind them is kept. */
+        private int fittingHours(int row, int from) {
+            for (int hour = from; hour < TOLD_HOURS; hour++) {
+                flow.standAt(upperAhead[hour], lowerAhead[hour], wayAhead[hour]);
+                if (!fits(hour, openingOf(row, hour))) {
+                    return hour;
+                }
+                upperAhead[hour + 1] = flow.upper;
+                lowerAhead[hour + 1] = flow.lower;
+                wayAhead[hour + 1] = flow.way;
+            }
+            return TOLD_HOURS;
         }
 
         private boolean fits(int hour, int opening) {
@@ -1361,14 +1383,13 @@ public final class RivalMills {
             return true;
         }
 
-        private void noteWay(int digits) {
+        private void noteWay(int row) {
             if (ways == 0) {
-                firstWay = digits;
+                firstWay = row;
             }
             ways++;
             for (int hour = 0; hour < TOLD_HOURS; hour++) {
-                int digit = digits >> 2 * (TOLD_HOURS - 1 - hour) & 3;
-                openingsSeen[hour] |= 1 << digit;
+                openingsSeen[hour] |= 1 << openingOf(row, hour);
             }
         }
 

@@ -6,9 +6,14 @@ import java.lang.reflect.Modifier;
 import java.nio.file.Files;
 import java.nio.file.Path;
 import java.util.ArrayList;
+import java.util.HashSet;
 import java.util.List;
+import java.util.Map;
 import java.util.Set;
+import java.util.TreeMap;
 import java.util.TreeSet;
+import java.util.regex.Matcher;
+import java.util.regex.Pattern;
 
 /** The public face is the document's and no more, and the source keeps to the rules of LANGUAGE.md that can be read off. */
 public final class FaceTest {
@@ -35,6 +40,7 @@ public final class FaceTest {
         others();
         nested();
         source();
+        recursion();
         Due.end();
     }
 
@@ -133,5 +139,59 @@ public final class FaceTest {
                 start = 0;
             }
         }
+    }
+
+    /** By names alone: where no name leads back to itself, no method calls itself, straight or by others (rule 8). */
+    private static void recursion() throws IOException {
+        Map<String, Set<String>> calls = callsByName(Files.readString(Path.of("src/main/java/RivalMills.java")));
+        Due.is("the methods are found", calls.size() >= FACE.length);
+        int deepest = 0;
+        for (String name : calls.keySet()) {
+            Set<String> met = new HashSet<>();
+            met.addAll(calls.get(name));
+            for (int round = 0; round < calls.size(); round++) {
+                for (String other : List.copyOf(met)) {
+                    met.addAll(calls.get(other));
+                }
+            }
+            boolean free = !met.contains(name);
+            Due.is(name + " does not come to call itself", free);
+            deepest = Math.max(deepest, free ? depthOf(calls, name, 1) : 99);
+        }
+        Due.is("calls go at most eight deep, not " + deepest, deepest <= 8);
+    }
+
+    private static int depthOf(Map<String, Set<String>> calls, String name, int depth) {
+        int deepest = depth;
+        for (String other : calls.get(name)) {
+            deepest = Math.max(deepest, depth > 20 ? depth : depthOf(calls, other, depth + 1));
+        }
+        return deepest;
+    }
+
+    private static Map<String, Set<String>> callsByName(String text) {
+        Pattern head = Pattern.compile("    (?:    )?(?:private |public )?(?:static )?[\\w\\[\\]]+ (\\w+)\\(.*\\{");
+        Pattern called = Pattern.compile("(\\w+\\.)?(\\w+)\\(");
+        Map<String, Set<String>> calls = new TreeMap<>();
+        String at = null;
+        for (String row : text.split("\n")) {
+            Matcher opens = head.matcher(row);
+            if (opens.matches()) {
+                at = opens.group(1);
+                calls.computeIfAbsent(at, name -> new TreeSet<>());
+            } else if (at != null && !row.trim().startsWith("/")) {
+                Matcher found = called.matcher(row);
+                while (found.find()) {
+                    String owner = found.group(1);
+                    if (owner == null || !owner.matches("(Math|Arrays|System|Integer)\\.")) {
+                        calls.get(at).add(found.group(2));
+                    }
+                }
+            }
+        }
+        for (Set<String> names : calls.values()) {
+            names.retainAll(calls.keySet());
+        }
+        return calls;
     }
 }
