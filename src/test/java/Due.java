@@ -8,15 +8,21 @@ final class Due {
 
     private static int wrong = 0;
     private static int asked = 0;
+    private static String under = "";
 
     private Due() {
+    }
+
+    /** What is told ahead of every wrong answer from here on. */
+    static void under(String words) {
+        under = words.isEmpty() ? "" : words + ": ";
     }
 
     static void is(String call, int got, int want) {
         asked++;
         if (got != want) {
             wrong++;
-            System.out.println(call + " answered " + got + ", due is " + want);
+            System.out.println(under + call + " answered " + got + ", due is " + want);
         }
     }
 
@@ -24,7 +30,7 @@ final class Due {
         asked++;
         if (!holds) {
             wrong++;
-            System.out.println(call + " does not hold");
+            System.out.println(under + call + " does not hold");
         }
     }
 
@@ -38,7 +44,7 @@ final class Due {
         }
         if (got != due) {
             wrong++;
-            System.out.println(call + " threw " + got + ", due is " + due);
+            System.out.println(under + call + " threw " + got + ", due is " + due);
         }
     }
 
