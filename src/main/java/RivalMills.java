@@ -228,13 +228,15 @@ public final class RivalMills {
     public int play() {
         turns = 0;
         for (int turn = 0; turn < 2 * MOST_ROUNDS; turn++) {
+            int mover = turn % 2;
             if (restsAhead(turn)) {
                 return 1;
             }
-            if (turn % 2 == 0 && kept.cameRound(plans, turn / 2)) {
+            if (mover == UPPER && kept.cameRound(plans, turn / 2)) {
                 return 2;
             }
-            giveReply(turn % 2);
+            // The mover's reply is what was sought last, by restsAhead().
+            takeReply(mover);
             turns++;
         }
         if (restsAhead(2 * MOST_ROUNDS)) {
@@ -541,19 +543,25 @@ public final class RivalMills {
 
     private int giveReply(int mill) {
         int most = mostByReply(mill);
-        Solver of = readySolver();
-        of.walkFirst();
-        System.arraycopy(of.first, mill * QUARTERS, plans, mill * QUARTERS, QUARTERS);
+        takeReply(mill);
         return most;
     }
 
+    /** Behind mostByReply() of the same mill. */
+    private void takeReply(int mill) {
+        Solver of = readySolver();
+        of.walkFirst();
+        System.arraycopy(of.first, mill * QUARTERS, plans, mill * QUARTERS, QUARTERS);
+    }
+
     private boolean restsAhead(int turn) {
-        int mover = turn % 2;
-        if (mostByReply(mover) > groundByPlans(mover)) {
-            return false;
-        }
-        // Behind the first turn the other one has just replied to this one's plan: it can't gain.
-        return turn > 0 || mostByReply(LOWER) <= groundByPlans(LOWER);
+        // Behind the first turn the other one has just replied to the mover's plan: it can't gain.
+        boolean otherGains = turn == 0 && gains(LOWER);
+        return !gains(turn % 2) && !otherGains;
+    }
+
+    private boolean gains(int mill) {
+        return mostByReply(mill) > groundByPlans(mill);
     }
 
     // ---- what the text tells ----

@@ -518,18 +518,20 @@ final class CallEdges {
         });
     }
 
-    /** The document lets an object be used for 512 calls: the last one answers as the first did. */
     private static void manyCalls() {
-        RivalMills x = Due.of("river 0 9;upper 40 7 4;lower 40 9 3;begin 40 40;back 25;");
-        int first = x.together();
-        int share = x.share(0);
-        for (int k = 0; k < 125; k++) {
-            x.plan(k % 2, k % 24, k % 4);
-            x.reply(k % 2);
-            x.weighed(k % 10, k / 10 % 10, 0);
-            x.marked(k % 41);
-        }
-        Due.is("together of the last call", x.together(), first);
-        Due.is("share of the last call", x.share(0), share);
+        Edge.ofPart("What it is", "An object is used for at most 512 calls after it has been made", () -> {
+            // three calls of feed, and mills
+            RivalMills x = Due.of("river 0 9;upper 40 7 4;lower 40 9 3;begin 40 40;back 25;");
+            int together = x.together();
+            int share = x.share(0);
+            for (int k = 0; k < 126; k++) {
+                x.plan(k % 2, k % 24, k % 4);
+                x.reply(k % 2);
+                x.weighed(k % 10, k / 10 % 10, 0);
+                x.marked(k % 41);
+            }
+            Due.is("the 511th call", x.together(), together);
+            Due.is("the 512th call", x.share(0), share);
+        });
     }
 }

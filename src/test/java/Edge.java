@@ -41,6 +41,11 @@ final class Edge {
         ask(term, "Terms", words, asked);
     }
 
+    /** An edge of another part of the document. */
+    static void ofPart(String part, String words, Asked asked) {
+        ask(part, part, words, asked);
+    }
+
     private static void ask(String name, String section, String words, Asked asked) {
         Due.under(name + " '" + words + "'");
         Due.is("the words stand in the document", SECTIONS.getOrDefault(section, "").contains(words));
