@@ -375,6 +375,9 @@ final class BestEdges {
                 // 3 go of 40 and 9 come: it is full again in each quarter
                 Due.is("a full pond may have 10 off", Due.of(full).harmless(), mark + 10);
             }
+            // 1, 2, 3, 4 stand in the hour in which it comes and it may open: in its last quarter alone it can grind
+            String late = "river 0 0;river 3 1;upper 9 4 1;begin 0 0;hours 0 3 3;back 2;";
+            Due.is("from the first quarter of an hour on", Due.of(late).harmless(), 2);
         });
         Edge.of(27, "HARMLESS; NONE: not even 0 (never)", () -> {
             for (String nothing : NOTHING) {
