@@ -41,6 +41,8 @@ public final class FaceTest {
         nested();
         source();
         recursion();
+        page();
+        example();
         Due.end();
     }
 
@@ -139,6 +141,35 @@ public final class FaceTest {
                 start = 0;
             }
         }
+    }
+
+    private static void page() throws IOException {
+        String page = Files.readString(Path.of("README.md"));
+        for (String line : FACE) {
+            String name = line.substring(0, line.indexOf('('));
+            Due.is("README.md names " + name, page.contains("`" + name + "`"));
+        }
+        Due.is("README.md tells how its tests are run", page.contains(".ci/run"));
+    }
+
+    /** The lines of README.md's example, and what it says of their answers. */
+    private static void example() throws IOException {
+        String page = Files.readString(Path.of("README.md"));
+        RivalMills x = new RivalMills();
+        x.feed(0x6261636b, 0x20373b00, 0, 0, 0);
+        said(page, "int ovens = x.mills(7);", x.mills(7), 0);
+        Due.is("the text's mark", x.told(0), 7);
+        Due.is("plan", x.plan(0, 6, 2), 0);
+        said(page, "int ground = x.day(0, 0);", x.day(0, 0), 8);
+        said(page, "int most = x.together();", x.together(), 405);
+        Due.is("take", x.take(), 405);
+        said(page, "int lost = x.lost();", x.lost(), 0);
+    }
+
+    private static void said(String page, String line, int got, int want) {
+        String row = page.lines().filter(text -> text.startsWith(line)).findFirst().orElse("");
+        Due.is("README.md has the line " + line + " and tells " + want, row.matches(".*\\b" + want + "\\b.*"));
+        Due.is(line, got, want);
     }
 
     /** By names alone: where no name leads back to itself, no method calls itself, straight or by others (rule 8). */
