@@ -429,7 +429,23 @@ final class BestEdges {
                 Due.is("of mills that are not", x.weighed(9, 9, 0), 90);
                 Due.tell(x, "ice 0 23;");
                 Due.is("by nothing then", x.weighed(0, 0, 0), 0);
+                weightsInTurn();
             });
+    }
+
+    /** Each pair of weights behind each other one: what was found for one is not the other one's. */
+    private static void weightsInTurn() {
+        for (int ahead = 0; ahead < 100; ahead++) {
+            RivalMills x = Due.of("river 0 0;upper 9 0 1;lower 9 0 1;begin 1 3;hours 0 23 23;hours 1 0 22;");
+            for (int now = 0; now < 100; now++) {
+                int a = now / 10;
+                int b = now % 10;
+                x.weighed(ahead / 10, ahead % 10, 0);
+                Due.is("weighed(" + a + ", " + b + ", 0) behind " + ahead, x.weighed(a, b, 0), a + 3 * b);
+                Due.is("weighed(" + a + ", " + b + ", 1) behind " + ahead, x.weighed(a, b, 1), a > 0 ? 1 : 0);
+                Due.is("weighed(" + a + ", " + b + ", 2) behind " + ahead, x.weighed(a, b, 2), b > 0 ? 3 : 0);
+            }
+        }
     }
 
     private static void pays() {
