@@ -356,6 +356,9 @@ final class BestEdges {
             for (int mark : new int[] {0, 33, 34, 35, 40}) {
                 String text = "river 0 0;begin 20 0;hours 0 3 3;back " + mark + ";";
                 Due.is("mark " + mark + " and 6", Due.of(text).harmless(), Math.min(40, mark + 6));
+                // one inch is all that it can grind, and one off takes it
+                String inch = "river 0 0;upper 9 1 1;begin 1 0;back " + mark + ";";
+                Due.is("mark " + mark + " of one inch", Due.of(inch).harmless(), mark);
             }
         });
         Edge.of("HARMLESS", "(over all its own PLANS; nothing comes into the lower one from it)", () -> {
